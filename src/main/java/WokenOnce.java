@@ -215,6 +215,7 @@ public final class WokenOnce {
     }
 
     public int worst() {
+        work.clear(HOURS);
         for (int hour = HOURS - 1; hour >= night.hour && hour >= 0; hour--) {
             expectNothing(hour);
             for (int thing = 0; thing < THINGS; thing++) {
@@ -223,13 +224,14 @@ public final class WokenOnce {
                 }
             }
         }
-        return night.hour < HOURS ? (int) -work.at(night.hour, asleep()) : 0;
+        return (int) -work.at(night.hour, asleep());
     }
 
     public int known(int code) {
         if (code < 0 || code >= powerOfFive(HOURS - night.hour)) {
             return OUTSIDE;
         }
+        work.clear(HOURS);
         for (int hour = HOURS - 1; hour >= night.hour && hour >= 0; hour--) {
             int figure = figureOf(code, hour - night.hour);
             expectNothing(hour);
@@ -237,7 +239,7 @@ public final class WokenOnce {
                 expectThing(hour, figure - 1);
             }
         }
-        return night.hour < HOURS ? (int) work.at(night.hour, asleep()) : 0;
+        return (int) work.at(night.hour, asleep());
     }
 
     public long byRule(int part) {
@@ -552,9 +554,6 @@ public final class WokenOnce {
     }
 
     private void expectNothing(int hour) {
-        if (hour == HOURS - 1) {
-            work.clear(HOURS);
-        }
         for (int set = 0; set <= house.everybody() && set < SETS; set++) {
             work.put(hour, set, work.at(hour + 1, set));
         }
@@ -1064,9 +1063,9 @@ public final class WokenOnce {
         }
     }
 
-    /** The sets that may be woken for a thing in an hour, in the order in which of like ones the first is chosen. */
+    /** Whom to wake for a thing in an hour, if anybody: sets in the order in which of like ones the first is taken. */
     private static final class Choices {
-        static final int ROOM = 1 + BEDS + BEDS * (BEDS - 1) / 2;
+        static final int ROOM = BEDS + BEDS * (BEDS - 1) / 2;
 
         final int[] sets = new int[ROOM];
         final int[] spent = new int[ROOM];
@@ -1079,7 +1078,6 @@ public final class WokenOnce {
         void gather(House house, int hour, int thing) {
             int harm = house.harmOf(thing);
             size = 0;
-            add(house, 0, 0);
             for (int s = 0; s < BEDS; s++) {
                 boolean may = house.has(s) && house.mayBeWoken(s, hour, 0);
                 alone[s] = may ? Math.min(harm, house.mends(s, thing, hour)) : 0;
@@ -1108,7 +1106,8 @@ public final class WokenOnce {
 
         /** What is gained at most, now and by what the table tells of who sleeps then; by the set picked. */
         long most(Table table, int nextHour, int asleep, long unit) {
-            long most = Long.MIN_VALUE;
+            long most = table.at(nextHour, asleep);
+            picked = 0;
             for (int choice = 0; choice < size && choice < ROOM; choice++) {
                 if ((sets[choice] & ~asleep) == 0) {
                     long gained = gains[choice] * unit + table.at(nextHour, asleep & ~spent[choice]);

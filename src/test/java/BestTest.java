@@ -11,6 +11,8 @@ public final class BestTest {
         ruleOfKinds();
         worth();
         roster();
+        leastDifference();
+        overBehindOtherCalls();
         wrong();
         Check.end("BestTest");
     }
@@ -270,6 +272,40 @@ public final class BestTest {
         Check.due("least bits", x.roster(999), 1);
         Check.due("roster(-1)", x.roster(-1), Check.OUTSIDE);
         Check.due("roster(1000)", x.roster(1000), Check.OUTSIDE);
+    }
+
+    private static void leastDifference() {
+        WokenOnce x = house(1, 1, 1, 1, 1, 1);
+        x.harm(0, 1);
+        Check.ring(x, "a1/a1/a1/a1/a1/a1");
+        fraction("the sixth is wanted once in a million nights", x.worth(5, 0), x.worth(5, 1), 1, 1000000);
+        Check.due("roster(60)", x.roster(60), 63);
+        Check.due("roster(59)", x.roster(59), 31);
+        Check.bed(x, 0, 0, 1);
+        fraction("of seven none is wanted", x.worth(5, 0), x.worth(5, 1), 0, 1);
+        Check.due("roster(60): least bits", x.roster(60), 63);
+        Check.due("roster(59): the free one", x.roster(59), 95);
+        bestIs(x, "best of seven", 3, 5);
+    }
+
+    /** What one call works out must not be taken for another's. */
+    private static void overBehindOtherCalls() {
+        WokenOnce x = one(0, "a5/a5/a5/a5/a5/a5", 30);
+        Check.hang(x, "0+1");
+        for (int hour = 0; hour < 6; hour++) {
+            x.come(Check.NONE, 0);
+        }
+        Check.due("seen({0})", x.seen(1), 63);
+        Check.due("known(0) when it is over", x.known(0), 0);
+        Check.due("seen({})", x.seen(0), 1);
+        Check.due("worst() when it is over", x.worst(), 0);
+        bestIs(x, "best when it is over", 0, 1);
+        byRuleIs(x, "byRule when it is over", 0, 1);
+        x.evening();
+        Check.due("worst()", x.worst(), 270);
+        Check.due("known(a)", x.known(1), 30);
+        Check.due("worst() again", x.worst(), 270);
+        byRuleIs(x, "byRule", 945, 32);
     }
 
     private static void wrong() {
