@@ -44,6 +44,7 @@ final class Check {
         for (int from = 0; from < text.length(); from += 8) {
             x.letters(packed(text.substring(from, Math.min(text.length(), from + 8))));
         }
+        due("letters of the page " + text, x.count(5), text.length());
     }
 
     static void ring(WokenOnce x, String text) {
