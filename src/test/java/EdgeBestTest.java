@@ -446,6 +446,11 @@ public final class EdgeBestTest {
         x.evening();
         x.come(3, 1);
         byRuleIs(x, "he was woken", 0, 1);
+        WokenOnce two = house(SLEEPER, "a2/a3/-/-/-/-", 10, 10);
+        Check.hang(two, "10+1");
+        byRuleIs(two, "the second, then the first", 5, 1);
+        two.skill(0, 0, 20);
+        byRuleIs(two, "the first is woken but behind the second", 28, 5);
         WokenOnce least = house(SLEEPER, "a1/a1/a1/a1/a1/a1", 1);
         Check.hang(least, "0+0");
         byRuleIs(least, "a tenth six times", 468559, 1000000);
@@ -549,6 +554,10 @@ public final class EdgeBestTest {
         }
         Check.ring(x, NOTHING);
         Check.due("nothing comes: nobody", x.roster(999), 0);
+        WokenOnce millionth = house(SLEEPER, "a1/a1/a1/a1/a1/a1", 1, 1, 1, 1, 1, 1, 1);
+        millionth.harm(0, 1);
+        Check.due("a millionth is more than nothing", millionth.roster(999), 63);
+        Check.due("for five", millionth.roster(59), 31);
         WokenOnce none = house(SLEEPER, "a9/a9/a9/a9/a9/a9", 0, 0, 0);
         Check.due("who mends nothing: nobody", none.roster(999), 0);
         Check.due("nobody is there", new WokenOnce().roster(999), 0);

@@ -23,6 +23,8 @@ public final class EdgeMorningTest {
         nightsWithoutRule();
         nightsChangeNothing();
         bestIsNotTheRule();
+        nobodyForNothing();
+        eachOnceInADrawnNight();
         Check.end("EdgeMorningTest");
     }
 
@@ -371,5 +373,34 @@ public final class EdgeMorningTest {
         pass(pair, 5);
         Check.due("the best wakes two", pair.night(0, 0), 50);
         Check.due("the rule wakes one", pair.night(0, 1), 30);
+    }
+
+    /** "nothing else": if nothing comes nobody is woken, not even by a RULE that asks for nothing. */
+    private static void nobodyForNothing() {
+        WokenOnce x = house("-/-/-/-/-/a9", "0+0", SLEEPER);
+        for (int seed = 0; seed < 50; seed++) {
+            long then = seed;
+            for (int hour = 0; hour < 6; hour++) {
+                then = next(then);
+            }
+            int want = then / 65536 % 10 < 9 ? 20 : 0;
+            Check.due("by the best, seed " + seed, x.night(seed, 0), want);
+            Check.due("by the rule, seed " + seed, x.night(seed, 1), want);
+        }
+    }
+
+    /** Three who mend 20 and six HOURS: whoever was woken in an HOUR of a drawn NIGHT is so till its end. */
+    private static void eachOnceInADrawnNight() {
+        WokenOnce x = house("a9b1/a9b1/a9b1/a9b1/a9b1/a9b1", "210+0", SLEEPER, SLEEPER, SLEEPER);
+        x.harm(0, 20);
+        x.harm(1, 20);
+        for (int seed = 0; seed < 50; seed++) {
+            Check.due("by the best, seed " + seed, x.night(seed, 0), 60);
+            Check.due("by the rule, seed " + seed, x.night(seed, 1), 60);
+        }
+        Check.ring(x, "-/-/-/a9b1/a9b1/a9b1");
+        x.come(3, 2);
+        Check.due("one was woken ahead, by the best", x.night(0, 0), 40);
+        Check.due("one was woken ahead, by the rule", x.night(0, 1), 40);
     }
 }

@@ -14,6 +14,7 @@ public final class EdgeSleepersTest {
         nurseMendsNineAtMost();
         halfRoundedDown();
         wokenOnceInANight();
+        wokenByNumber();
         nurseIsNeverWoken();
         earlyNotIn4And5();
         mendsWhenWoken();
@@ -236,6 +237,26 @@ public final class EdgeSleepersTest {
                 x.evening();
                 Check.due("not woken in the next night", x.about(0, 2), 0);
                 Check.due("may be woken in the next night", x.about(0, 3), 1);
+            }
+        }
+    }
+
+    /** Who was woken is told of each by himself, whatever his number. */
+    private static void wokenByNumber() {
+        for (int kind : new int[] {SLEEPER, HEAVY, EARLY, OLD}) {
+            for (int woken = 0; woken < 7; woken++) {
+                WokenOnce x = new WokenOnce();
+                for (int s = 0; s < 7; s++) {
+                    x.sleeper(kind, 0);
+                }
+                x.come(0, 1 << woken);
+                for (int s = 0; s < 7; s++) {
+                    Check.due(s + " was woken, if " + woken, x.about(s, 2), s == woken ? 1 : 0);
+                    Check.due(s + " may be woken, if not " + woken, x.about(s, 3), s == woken ? 0 : 1);
+                }
+                Check.due("once more", x.come(0, 1 << woken), Check.STATE);
+                Check.due("another", x.come(0, 1 << (woken + 1) % 7), 0);
+                Check.due("count(2)", x.count(2), 2);
             }
         }
     }

@@ -120,7 +120,7 @@ public final class FaceTest {
         long before = threads.getThreadAllocatedBytes(id);
         before = threads.getThreadAllocatedBytes(id);
         long sum = 0;
-        for (int i = 0; i < 20; i++) {
+        for (int i = 0; i < 12; i++) {
             sum += allCalls(x);
         }
         long made = threads.getThreadAllocatedBytes(id) - before;

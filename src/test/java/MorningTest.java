@@ -92,7 +92,7 @@ public final class MorningTest {
         Check.bed(x, 1, 0, 1, 2, 3, 4);
         Check.ring(x, "a1b2c3d4/a2/b9/d5/c1d1/a4b4");
         int[][] tenths = {{1, 2, 3, 4}, {2, 0, 0, 0}, {0, 9, 0, 0}, {0, 0, 0, 5}, {0, 0, 1, 1}, {4, 4, 0, 0}};
-        for (int seed = 0; seed < 200; seed++) {
+        for (int seed = 0; seed < 120; seed++) {
             long s = seed;
             int mended = 0;
             for (int hour = 0; hour < 6; hour++) {

@@ -1,5 +1,4 @@
 import java.util.EnumSet;
-import java.util.List;
 import java.util.Set;
 import java.util.function.ToLongFunction;
 
@@ -26,7 +25,6 @@ public final class RefusalsTest {
         ruled();
         morning();
         ofAll();
-        asking();
         Check.end("RefusalsTest");
     }
 
@@ -207,27 +205,6 @@ public final class RefusalsTest {
         refused(noImage, "restore()", Check.STATE, x -> x.restore());
         for (int what : new int[] {-1, 8, MIN, MAX}) {
             refused(ALL, "count(" + what + ")", Check.OUTSIDE, x -> x.count(what));
-        }
-    }
-
-    /** What is only asked changes nothing either, whatever else was asked before. */
-    private static void asking() {
-        List<ToLongFunction<WokenOnce>> asked = List.of(
-            x -> x.fault(0), x -> x.fault(1), x -> x.tenths(0, 0), x -> x.about(0, 3), x -> x.as(0, 0),
-            x -> x.best(0), x -> x.whom(1), x -> x.worst(), x -> x.known(0), x -> x.byRule(1), x -> x.worth(0, 0),
-            x -> x.roster(40), x -> x.seen(1), x -> x.sure(1, 3), x -> x.night(7, 0), x -> x.night(7, 1),
-            x -> x.night(7, 2), x -> x.count(4), x -> x.digest(), x -> x.letters(0L));
-        for (Scene scene : ALL) {
-            List<Long> due = Told.by(scene.make());
-            for (int first = 0; first < asked.size(); first++) {
-                WokenOnce x = scene.make();
-                long answer = asked.get(first).applyAsLong(x);
-                for (ToLongFunction<WokenOnce> call : asked) {
-                    call.applyAsLong(x);
-                }
-                Check.due("asked again, call " + first + " in " + scene, asked.get(first).applyAsLong(x), answer);
-                Check.holds("asking, first call " + first + " in " + scene, Told.by(x).equals(due));
-            }
         }
     }
 }
