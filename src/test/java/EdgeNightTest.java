@@ -129,7 +129,7 @@ public final class EdgeNightTest {
         Check.due("each half is rounded by itself", x.come(0, 3), 40);
     }
 
-    /** "If nothing comes, nobody is woken. Then it is the next HOUR"; "or nothing comes and somebody would be woken". */
+    /** "If nothing comes, nobody is woken. Then it is the next HOUR"; STATE: "somebody would be woken". */
     private static void nothingComes() {
         for (int kind = 0; kind < 5; kind++) {
             WokenOnce x = house(kind, kind);

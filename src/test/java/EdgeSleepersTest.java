@@ -156,7 +156,8 @@ public final class EdgeSleepersTest {
         for (int thing = -2; thing <= 5; thing++) {
             boolean good = thing >= 0 && thing <= 3;
             Check.due("harm(" + thing + ", 1)", new WokenOnce().harm(thing, 1), good ? 50 : Check.UNKNOWN);
-            Check.due("harm(" + thing + ", 100)", new WokenOnce().harm(thing, 100), good ? Check.OUTSIDE : Check.UNKNOWN);
+            Check.due("harm(" + thing + ", 100)", new WokenOnce().harm(thing, 100),
+                good ? Check.OUTSIDE : Check.UNKNOWN);
         }
         WokenOnce x = new WokenOnce();
         pass(x, 6);
@@ -210,7 +211,8 @@ public final class EdgeSleepersTest {
             int[] half = {0, 1, 1, 49};
             WokenOnce old = in(hour, OLD, 1, 2, 3, 99);
             for (int thing = 0; thing < 4; thing++) {
-                Check.due("a heavy one in hour " + hour, heavy.about(0, 10 + thing), hour <= 2 ? half[thing] : all[thing]);
+                Check.due("a heavy one in hour " + hour, heavy.about(0, 10 + thing),
+                    hour <= 2 ? half[thing] : all[thing]);
                 Check.due("an old one in hour " + hour, old.about(0, 10 + thing), half[thing]);
             }
             heavy.harm(3, 99);
@@ -306,8 +308,10 @@ public final class EdgeSleepersTest {
             for (int s = -1; s <= 7; s++) {
                 for (int kind = -1; kind <= 5; kind++) {
                     boolean is = kinds[own].contains("" + kind);
-                    int want = s < 0 || s > 6 ? Check.UNKNOWN : kind < 0 || kind > 4 ? Check.OUTSIDE : is ? s : Check.NONE;
-                    Check.due("as(" + s + ", " + kind + ") of kind " + own, x.as(s, kind), want);
+                    int taken = is ? s : Check.NONE;
+                    int known = kind < 0 || kind > 4 ? Check.OUTSIDE : taken;
+                    Check.due("as(" + s + ", " + kind + ") of kind " + own, x.as(s, kind),
+                        s < 0 || s > 6 ? Check.UNKNOWN : known);
                 }
             }
         }

@@ -8,10 +8,12 @@ public final class ModelTest {
     private final WokenOnce x = new WokenOnce();
     private final Model model = new Model();
     private final String run;
+    private final int firstKind;
 
     private ModelTest(int seed) {
         random = new Random(seed);
         run = "run " + seed + ": ";
+        firstKind = seed / 5;
     }
 
     public static void main(String[] args) {
@@ -24,7 +26,8 @@ public final class ModelTest {
 
     private void play(int beds, int calls) {
         for (int s = 0; s < beds; s++) {
-            same("sleeper", x.sleeper(s % 5, s * 9), model.sleeper(s % 5, s * 9));
+            int kind = (firstKind + s) % 5;
+            same("sleeper", x.sleeper(kind, s * 9), model.sleeper(kind, s * 9));
             for (int thing = 0; thing < 4; thing++) {
                 int v = some();
                 same("skill", x.skill(s, thing, v), model.skill(s, thing, v));
