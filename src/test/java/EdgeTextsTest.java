@@ -333,9 +333,14 @@ public final class EdgeTextsTest {
     /** "(another one is gone)": its SLEEPERS and its TENS. */
     private static void anotherRule() {
         WokenOnce x = house(7);
-        Check.hang(x, "6543210+9");
-        Check.hang(x, "3+0");
         WokenOnce y = house(7);
+        for (WokenOnce each : new WokenOnce[] {x, y}) {
+            Check.ring(each, "a1b1/-/-/-/-/-");
+        }
+        Check.hang(x, "6543210+9");
+        Check.due("they mend 99 of a, nothing of b", x.seen(1 << 6), 1);
+        Check.hang(x, "3+0");
+        Check.due("nothing of b is enough now", x.seen(1 << 3), 2);
         Check.hang(y, "3+0");
         Check.holds("as if the other never was", Told.by(x).equals(Told.by(y)));
     }
