@@ -9,6 +9,7 @@ public final class ModelTest {
     private final Model model = new Model();
     private final String run;
     private final int firstKind;
+    private int made = 0;
 
     private ModelTest(int seed) {
         random = new Random(seed);
@@ -21,10 +22,34 @@ public final class ModelTest {
             int beds = seed % 12 == 0 ? 7 : seed % 5;
             new ModelTest(seed).play(beds, beds == 7 ? 60 : 250);
         }
+        for (int seed = 1000; seed < 1024; seed++) {
+            new ModelTest(seed).playTill512thCall(1 + seed % 4);
+        }
         Check.end("ModelTest");
     }
 
     private void play(int beds, int calls) {
+        begin(beds);
+        for (int i = 0; i < calls; i++) {
+            call(random.nextInt(40), beds);
+        }
+        same("digest at the end", x.digest(), model.digest());
+    }
+
+    /** "An object is used for at most 512 calls after it has been made" */
+    private void playTill512thCall(int beds) {
+        begin(beds);
+        while (made < 490) {
+            call(random.nextInt(40), beds);
+        }
+        while (made < 511) {
+            same("night", x.night(made, made % 2), model.night(made, made % 2));
+        }
+        same("digest as the 512th call", x.digest(), model.digest());
+        Check.due(run + "calls", made, 512);
+    }
+
+    private void begin(int beds) {
         for (int s = 0; s < beds; s++) {
             int kind = (firstKind + s) % 5;
             same("sleeper", x.sleeper(kind, s * 9), model.sleeper(kind, s * 9));
@@ -39,13 +64,10 @@ public final class ModelTest {
             text(ruleText());
             same("rule", x.rule(), model.rule());
         }
-        for (int i = 0; i < calls; i++) {
-            call(random.nextInt(40), beds);
-        }
-        same("digest at the end", x.digest(), model.digest());
     }
 
     private void same(String call, long got, long want) {
+        made++;
         Check.due(run + call, got, want);
     }
 
